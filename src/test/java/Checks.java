@@ -1,0 +1,137 @@
+/** What the tests of the project share: counting wrong answers, and short ways to use an object. */
+final class Checks {
+    static final int NONE = RadixPages.NONE, FULL = RadixPages.FULL, LOST = RadixPages.LOST, DOWN = RadixPages.DOWN;
+    static final long NO = RadixPages.NO;
+    static final int PAGE_BYTES = 512;
+    static final int SUM_AT = 504;
+
+    interface Call {
+        long answer();
+    }
+
+    private static int wrong = 0;
+
+    private Checks() {
+    }
+
+    static void due(String call, long got, long want) {
+        if (got != want) {
+            wrong++;
+            System.out.println(call + " answered " + got + ", due is " + want);
+        }
+    }
+
+    static void throwsIt(String call, Class<? extends RuntimeException> want, Call it) {
+        String got;
+        try {
+            got = "answered " + it.answer();
+        } catch (RuntimeException e) {
+            if (e.getClass() == want) {
+                return;
+            }
+            got = "threw " + e;
+        }
+        wrong++;
+        System.out.println(call + " " + got + ", due is " + want.getSimpleName());
+    }
+
+    static void end() {
+        System.out.println(wrong == 0 ? "all answers are as due" : wrong + " answers are not as due");
+        if (wrong != 0) {
+            System.exit(1);
+        }
+    }
+
+    /** The tape becomes the text, a byte a character. */
+    static void tape(RadixPages x, String key) {
+        x.cut(0);
+        for (int from = 0; from < key.length(); from += 8) {
+            int n = Math.min(8, key.length() - from);
+            long w = 0;
+            for (int i = 0; i < n; i++) {
+                w = w << 8 | key.charAt(from + i);
+            }
+            x.type(w, n);
+        }
+    }
+
+    static String tapeOf(RadixPages x) {
+        StringBuilder text = new StringBuilder();
+        for (int i = 0; x.tapeAt(i) != NONE; i++) {
+            text.append((char) x.tapeAt(i));
+        }
+        return text.toString();
+    }
+
+    static int put(RadixPages x, String key, long v) {
+        tape(x, key);
+        return x.put(v);
+    }
+
+    static int remove(RadixPages x, String key) {
+        tape(x, key);
+        return x.remove();
+    }
+
+    static long get(RadixPages x, String key) {
+        tape(x, key);
+        return x.get();
+    }
+
+    static String text(int... bytes) {
+        StringBuilder text = new StringBuilder();
+        for (int b : bytes) {
+            text.append((char) b);
+        }
+        return text.toString();
+    }
+
+    static int[] pageOf(RadixPages x, int page) {
+        int[] row = new int[PAGE_BYTES];
+        for (int i = 0; i < PAGE_BYTES; i++) {
+            row[i] = x.octet(page, i);
+        }
+        return row;
+    }
+
+    static long sum(int[] row) {
+        long s = 0;
+        for (int i = 0; i < SUM_AT; i++) {
+            s = Long.rotateLeft((s ^ row[i]) * 0x100000001B3L, 9);
+        }
+        return s;
+    }
+
+    static void seal(int[] row) {
+        setLong(row, SUM_AT, sum(row));
+    }
+
+    static void setLong(int[] row, int from, long v) {
+        for (int i = 0; i < 8; i++) {
+            row[from + i] = (int) (v >>> 56 - 8 * i) & 255;
+        }
+    }
+
+    static long longAt(int[] row, int from) {
+        long v = 0;
+        for (int i = 0; i < 8; i++) {
+            v = v << 8 | row[from + i];
+        }
+        return v;
+    }
+
+    /** Makes a page what the row is, with no more pokes than it needs. */
+    static void pokeAll(RadixPages x, int page, int[] old, int[] row) {
+        for (int i = 0; i < PAGE_BYTES; i++) {
+            if (old[i] != row[i]) {
+                due("poke(" + page + ", " + i + ")", x.poke(page, i, old[i] ^ row[i]), row[i]);
+            }
+        }
+    }
+
+    static void duePage(String what, RadixPages x, int page, int[] want) {
+        for (int i = 0; i < PAGE_BYTES; i++) {
+            due(what + ": octet(" + page + ", " + i + ")", x.octet(page, i), want[i]);
+        }
+    }
+}
