@@ -86,6 +86,21 @@ final class Checks {
         return text.toString();
     }
 
+    /** Keys of seven bytes 0 or 1: a tree of n of them has 2 * n - 1 nodes, after 3 * n calls. */
+    static String bits(int i) {
+        StringBuilder text = new StringBuilder();
+        for (int k = 6; k >= 0; k--) {
+            text.append((char) (i >> k & 1));
+        }
+        return text.toString();
+    }
+
+    static void putBits(RadixPages x, int n) {
+        for (int i = 0; i < n; i++) {
+            due("put of key " + i, put(x, bits(i), i), 1);
+        }
+    }
+
     static int[] pageOf(RadixPages x, int page) {
         int[] row = new int[PAGE_BYTES];
         for (int i = 0; i < PAGE_BYTES; i++) {
@@ -129,8 +144,9 @@ final class Checks {
         }
     }
 
-    static void duePage(String what, RadixPages x, int page, int[] want) {
-        for (int i = 0; i < PAGE_BYTES; i++) {
+    /** Looks at half a page, 0 or 1, because an object is good for 512 calls alone. */
+    static void dueHalf(String what, RadixPages x, int page, int half, int[] want) {
+        for (int i = 256 * half; i < 256 * half + 256; i++) {
             due(what + ": octet(" + page + ", " + i + ")", x.octet(page, i), want[i]);
         }
     }

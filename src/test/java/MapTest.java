@@ -34,8 +34,9 @@ final class MapTest {
         Checks.due("before of a new one", x.before(), 0);
         Checks.due("nth of a new one", x.nth(0), Checks.NONE);
         for (int page = 0; page < 256; page++) {
+            RadixPages y = new RadixPages();
             for (int i = 0; i < 512; i++) {
-                Checks.due("octet of a new one", x.octet(page, i), 0);
+                Checks.due("octet of a new one", y.octet(page, i), 0);
             }
         }
     }
@@ -102,37 +103,43 @@ final class MapTest {
 
     private static void fullTree() {
         RadixPages x = new RadixPages();
-        for (int b = 0; b < 199; b++) {
-            Checks.due("put " + b, Checks.put(x, Checks.text(b), b), 1);
-        }
-        // 200 nodes now: the root, and 199 children
+        Checks.putBits(x, 100);
+        Checks.due("nodes of 100 keys", x.count(1), 199);
+        Checks.due("a cut that takes two nodes", Checks.put(x, Checks.bits(100), 1), Checks.FULL);
+        Checks.due("nodes behind a refusal", x.count(1), 199);
+        Checks.due("new nodes behind a refusal", x.count(6), 199);
+        Checks.due("the key behind a refusal", x.get(), Checks.NO);
+        Checks.due("a child more", Checks.put(x, Checks.bits(0) + "abc", 1), 1);
         Checks.due("nodes", x.count(1), 200);
-        Checks.due("a child more", Checks.put(x, Checks.text(255), 1), Checks.FULL);
-        Checks.due("a child deeper", Checks.put(x, Checks.text(0, 1), 1), Checks.FULL);
+        Checks.due("a child when full", Checks.put(x, Checks.bits(0) + "b", 1), Checks.FULL);
+        Checks.due("a deeper child when full", Checks.put(x, Checks.bits(0) + "abcd", 1), Checks.FULL);
+        Checks.due("a cut when full", Checks.put(x, Checks.bits(0) + "ab", 1), Checks.FULL);
         Checks.due("too long when full", Checks.put(x, "aaaaaaaaaaaaa", 1), Checks.NONE);
         Checks.due("NO when full", Checks.put(x, "z", Checks.NO), Checks.NONE);
-        Checks.due("keys", x.count(0), 199);
+        Checks.due("keys", x.count(0), 101);
         Checks.due("nodes behind refusals", x.count(1), 200);
         Checks.due("a value where a node is", Checks.put(x, "", 1), 1);
-        Checks.due("another value", Checks.put(x, Checks.text(7), 1), 0);
-        Checks.due("keys then", x.count(0), 200);
+        Checks.due("another value", Checks.put(x, Checks.bits(7), -1), 0);
+        Checks.due("keys then", x.count(0), 102);
+        Checks.due("remove when full", Checks.remove(x, Checks.bits(99)), 1);
+        Checks.due("two nodes are gone", x.count(1), 198);
+        Checks.due("the cut that was refused", Checks.put(x, Checks.bits(100), 1), 1);
+        Checks.due("nodes at last", x.count(1), 200);
     }
 
     private static void nodesAtTheLimit() {
         RadixPages x = new RadixPages();
-        for (int b = 0; b < 197; b++) {
-            Checks.put(x, Checks.text(b), b);
-        }
-        Checks.put(x, "\u00ffabc", 1);
-        Checks.due("nodes", x.count(1), 199);
-        Checks.due("two nodes more", Checks.put(x, "\u00ffaz", 2), Checks.FULL);
-        Checks.due("nodes behind a refusal", x.count(1), 199);
-        Checks.due("nothing is cut by a refusal", x.node(198, 2), 3);
-        Checks.due("one node more by a cut", Checks.put(x, "\u00ffa", 2), 1);
+        Checks.putBits(x, 99);
+        Checks.put(x, Checks.bits(98) + "abc", 1);
+        Checks.due("nodes", x.count(1), 198);
+        Checks.due("two nodes more", Checks.put(x, Checks.bits(98) + "az", 2), 1);
         Checks.due("nodes then", x.count(1), 200);
-        Checks.due("cut when full", Checks.put(x, "\u00ffab", 2), Checks.FULL);
-        Checks.due("remove when full", Checks.remove(x, "\u00ffa"), 1);
-        Checks.due("nodes behind it", x.count(1), 199);
+        Checks.remove(x, Checks.bits(98) + "az");
+        Checks.put(x, Checks.bits(97) + "abc", 1);
+        Checks.due("nodes again", x.count(1), 199);
+        Checks.due("two nodes too many", Checks.put(x, Checks.bits(97) + "az", 2), Checks.FULL);
+        Checks.due("one node more by a cut", Checks.put(x, Checks.bits(97) + "a", 2), 1);
+        Checks.due("nodes at last", x.count(1), 200);
     }
 
     private static void bytesAreUnsigned() {
@@ -176,7 +183,7 @@ final class MapTest {
         TreeMap<String, Long> map = new TreeMap<>();
         int letters = 2 + random.nextInt(6);
         int longest = 1 + random.nextInt(12);
-        for (int i = 0; i < 90; i++) {
+        for (int i = 0; i < 50; i++) {
             StringBuilder text = new StringBuilder();
             int length = random.nextInt(longest + 1);
             for (int k = 0; k < length; k++) {
@@ -185,10 +192,10 @@ final class MapTest {
             String key = text.toString();
             if (random.nextInt(3) == 0) {
                 Checks.due(seed + " remove", Checks.remove(x, key), map.remove(key) == null ? 0 : 1);
-            } else if (map.size() < 90) {
+            } else {
                 Checks.due(seed + " put", Checks.put(x, key, i), map.put(key, (long) i) == null ? 1 : 0);
             }
-            Checks.due(seed + " get", Checks.get(x, key), map.getOrDefault(key, Checks.NO));
+            Checks.due(seed + " get", x.get(), map.getOrDefault(key, Checks.NO));
             Checks.due(seed + " before", x.before(), map.headMap(key).size());
             Checks.due(seed + " with", x.with(), map.keySet().stream().filter(k -> k.startsWith(key)).count());
         }
