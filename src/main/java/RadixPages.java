@@ -406,24 +406,28 @@ public final class RadixPages {
             value = 0;
         }
 
-        /** The last child whose byte is below one, or null. */
-        private Node lastBelow(int edge) {
+        /** The last child whose byte is below b, or null. */
+        private Node lastBelow(int b) {
             Node last = null;
-            for (Node child = first; child != null && child.edge < edge; child = child.next) {
+            for (Node child = first; child != null && child.edge < b; child = child.next) {
                 last = child;
             }
             return last;
         }
 
-        /** The first child whose byte is one or above it, or null. */
-        Node firstFrom(int edge) {
-            Node last = lastBelow(edge);
-            return last == null ? first : last.next;
+        /** The first child whose byte is b or above it, or null. */
+        Node firstFrom(int b) {
+            for (Node child = first; child != null; child = child.next) {
+                if (child.edge >= b) {
+                    return child;
+                }
+            }
+            return null;
         }
 
-        Node childBy(int edge) {
-            Node child = firstFrom(edge);
-            return child != null && child.edge == edge ? child : null;
+        Node childBy(int b) {
+            Node child = firstFrom(b);
+            return child != null && child.edge == b ? child : null;
         }
 
         private void setNextOf(Node last, Node child) {
@@ -907,8 +911,11 @@ public final class RadixPages {
         }
 
         void setLong(int i, long v) {
+            if (i < 0 || i > bytes.length - 8) {
+                return;
+            }
             for (int k = 0; k < 8; k++) {
-                set(i + k, (int) (v >>> 8 * (7 - k)) & 255);
+                bytes[i + k] = (byte) (v >>> 8 * (7 - k));
             }
         }
 
@@ -920,16 +927,16 @@ public final class RadixPages {
 
         void seal() {
             long sum = 0;
-            for (int i = 0; i < SUM_AT; i++) {
-                long product = (sum ^ at(i)) * SUM_FACTOR;
+            for (int i = 0; i < SUM_AT && i < bytes.length; i++) {
+                long product = (sum ^ (bytes[i] & 255)) * SUM_FACTOR;
                 sum = product << SUM_TURN | product >>> 64 - SUM_TURN;
             }
             setLong(SUM_AT, sum);
         }
 
         boolean same(Row other) {
-            for (int i = 0; i < PAGE_BYTES; i++) {
-                if (at(i) != other.at(i)) {
+            for (int i = 0; i < bytes.length && i < other.bytes.length; i++) {
+                if (bytes[i] != other.bytes[i]) {
                     return false;
                 }
             }
@@ -965,17 +972,16 @@ public final class RadixPages {
         }
 
         void read(int page, Row row) {
-            for (int i = 0; i < PAGE_BYTES; i++) {
-                row.set(i, byteAt(page, i));
+            if (has(page, 0)) {
+                System.arraycopy(bytes, page * PAGE_BYTES, row.bytes, 0, PAGE_BYTES);
             }
         }
 
         /** Whether power stayed. */
         boolean write(int page, Row row) {
             boolean goes = writesLeft == 0;
-            int end = goes ? tear : PAGE_BYTES;
-            for (int i = 0; i < end; i++) {
-                setByte(page, i, row.at(i));
+            if (has(page, 0)) {
+                System.arraycopy(row.bytes, 0, bytes, page * PAGE_BYTES, goes ? tear : PAGE_BYTES);
             }
             if (goes) {
                 setByte(page, 0, TORN);
@@ -1001,7 +1007,7 @@ public final class RadixPages {
             row.setLong(SEQUENCE_AT, sequence);
             row.set(ROOT_AT, rootPage);
             row.set(KEYS_AT, keys >> 8);
-            row.set(KEYS_AT + 1, keys);
+            row.set(KEYS_AT + 1, keys & 255);
             row.seal();
         }
 

@@ -11,6 +11,7 @@ final class CommitTest {
         heads();
         manyKeys();
         fullCommit();
+        justNotFull();
         goingBack();
         wrongOctets();
         Checks.end();
@@ -169,6 +170,22 @@ final class CommitTest {
         int way = x.count(6);
         Checks.due("a smaller batch", x.commit(), way + 1);
         Checks.due("free", x.count(7), 55);
+    }
+
+    private static void justNotFull() {
+        RadixPages x = new RadixPages();
+        Checks.putBits(x, 100);
+        x.commit();
+        for (int i = 0; i < 26; i++) {
+            Checks.put(x, Checks.bits(i), -1);
+        }
+        Checks.due("as many new nodes as free pages", x.count(6), x.count(7));
+        Checks.due("commit", x.commit(), 56);
+        Checks.due("the root is on the last page", x.count(9), 255);
+        Checks.due("free pages then", x.count(7), 55);
+        Checks.put(x, Checks.bits(0), -2);
+        x.commit();
+        Checks.due("what was given up is used again", x.node(7, 4), 2);
     }
 
     private static void goingBack() {

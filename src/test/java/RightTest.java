@@ -279,6 +279,11 @@ final class RightTest {
             .node(4, 1, "", 1L, 7, 5).node(5, 1, "", 1L);
         twice.head(1, SEQUENCE, 2, 5).due("a node of two parents", 0);
         twice.head(1, SEQUENCE, 2, 4).due("a node of two parents, counted once", 0);
+        RightTest onHead = new RightTest().node(2, 1, "", 1L, 5, 1).node(1, 1, "", 1L).head(0, 6, 2, 2);
+        onHead.due("a child on page 1", 0);
+        onHead.node(2, 1, "", 1L, 5, 3).node(3, 1, "", 1L).due("the same on page 3", 6);
+        onHead.head(0, 6, 1, 1).due("a root on page 1", 0);
+        onHead.head(0, 6, 3, 1).due("the same root on page 3", 6);
     }
 
     private static void keyLengths() {
