@@ -10,14 +10,33 @@ final class Checks {
     }
 
     private static int wrong = 0;
+    private static String sentence = "";
 
     private Checks() {
     }
 
+    /** From here on answers are due by these words of the document. */
+    static void by(String words) {
+        sentence = words;
+    }
+
+    private static void tellWrong(String what) {
+        wrong++;
+        System.out.println(what);
+        if (!sentence.isEmpty()) {
+            System.out.println("    by: " + sentence);
+        }
+    }
+
     static void due(String call, long got, long want) {
         if (got != want) {
-            wrong++;
-            System.out.println(call + " answered " + got + ", due is " + want);
+            tellWrong(call + " answered " + got + ", due is " + want);
+        }
+    }
+
+    static void due(String call, String got, String want) {
+        if (!got.equals(want)) {
+            tellWrong(call + " is " + got + ", due is " + want);
         }
     }
 
@@ -31,8 +50,7 @@ final class Checks {
             }
             got = "threw " + e;
         }
-        wrong++;
-        System.out.println(call + " " + got + ", due is " + want.getSimpleName());
+        tellWrong(call + " " + got + ", due is " + want.getSimpleName());
     }
 
     static void end() {
@@ -76,6 +94,37 @@ final class Checks {
     static long get(RadixPages x, String key) {
         tape(x, key);
         return x.get();
+    }
+
+    static int with(RadixPages x, String key) {
+        tape(x, key);
+        return x.with();
+    }
+
+    static int before(RadixPages x, String key) {
+        tape(x, key);
+        return x.before();
+    }
+
+    /** One-byte keys, each with its byte as value: three calls a key. */
+    static void putBytes(RadixPages x, int from, int to) {
+        for (int b = from; b < to; b++) {
+            due("put of byte " + b, put(x, text(b), b), 1);
+        }
+    }
+
+    /** What node(n, 0), node(n, 1), .. are to answer. */
+    static void dueNode(RadixPages x, int n, int... want) {
+        for (int what = 0; what < want.length; what++) {
+            due("node(" + n + ", " + what + ")", x.node(n, what), want[what]);
+        }
+    }
+
+    /** What count(0), count(1), .. are to answer. */
+    static void dueCounts(RadixPages x, int... want) {
+        for (int what = 0; what < want.length; what++) {
+            due("count(" + what + ")", x.count(what), want[what]);
+        }
     }
 
     static String text(int... bytes) {

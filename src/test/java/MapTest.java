@@ -21,10 +21,7 @@ final class MapTest {
 
     private static void newObject() {
         RadixPages x = new RadixPages();
-        int[] want = {0, 1, 1, 0, 0, 0, 0, 254, 0, 0, 1};
-        for (int what = 0; what < want.length; what++) {
-            Checks.due("count(" + what + ") of a new one", x.count(what), want[what]);
-        }
+        Checks.dueCounts(x, 0, 1, 1, 0, 0, 0, 0, 254, 0, 0, 1);
         Checks.due("node(0, 0) of a new one", x.node(0, 0), 1);
         Checks.due("commit of a new one", x.commit(), 0);
         Checks.due("back of a new one", x.back(), 0);
@@ -61,9 +58,9 @@ final class MapTest {
         Checks.due("remove of one that is not there", Checks.remove(x, "a"), 0);
         Checks.due("before a", x.before(), 1);
         Checks.due("with a", x.with(), 2);
-        Checks.due("before abb", before(x, "abb"), 2);
-        Checks.due("before abca", before(x, "abca"), 3);
-        Checks.due("before abc", before(x, "abc"), 2);
+        Checks.due("before abb", Checks.before(x, "abb"), 2);
+        Checks.due("before abca", Checks.before(x, "abca"), 3);
+        Checks.due("before abc", Checks.before(x, "abc"), 2);
         Checks.due("nth(2)", x.nth(2), 3);
         Checks.due("its key", Checks.tapeOf(x).equals("abc") ? 1 : 0, 1);
         Checks.due("nth(3)", x.nth(3), Checks.NONE);
@@ -77,11 +74,6 @@ final class MapTest {
         Checks.due("remove again", x.remove(), 0);
         Checks.due("get of what was removed", x.get(), Checks.NO);
         Checks.due("get of what stays", Checks.get(x, "abc"), -6);
-    }
-
-    private static int before(RadixPages x, String key) {
-        Checks.tape(x, key);
-        return x.before();
     }
 
     private static void tooLong() {

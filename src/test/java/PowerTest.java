@@ -108,10 +108,7 @@ final class PowerTest {
         Checks.due("halt when down", x.halt(), Checks.DOWN);
         Checks.due("count when down", x.count(0), Checks.DOWN);
         Checks.due("start with no head", x.start(), 0);
-        int[] want = {0, 1, 1, 0, 0, 0, 0, 254, 0, 0, 1};
-        for (int what = 0; what < want.length; what++) {
-            Checks.due("count(" + what + ")", x.count(what), want[what]);
-        }
+        Checks.dueCounts(x, 0, 1, 1, 0, 0, 0, 0, 254, 0, 0, 1);
         Checks.due("commit of nothing", x.commit(), 0);
         Checks.put(x, "a", 1);
         x.commit();

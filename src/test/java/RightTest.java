@@ -1,96 +1,62 @@
-import java.util.TreeMap;
-
-/** Promises 16 and 19: which heads and trees start() takes for right, each rule by itself. */
+/** RIGHT, for promises 16 and 19: each thing that makes a head or a tree not right, with a test of its own. */
 final class RightTest {
     private static final long SEQUENCE = 5;
-
-    /** The rows of a disk on which a tree is laid by hand; the head is on page 1. */
-    private final TreeMap<Integer, int[]> rows = new TreeMap<>();
+    private static final int[] MOST = {0, 4, 16, 48, 256};
 
     public static void main(String[] args) {
         plainTrees();
-        heads();
-        twoHeads();
-        nodeBytes();
-        children();
-        places();
-        bytesOfFormat4();
-        reasons();
-        sharedPages();
-        keyLengths();
-        keyCounts();
-        tooManyNodes();
-        formatsThatAreLet();
+        headsByte0();
+        headsZeros();
+        headsSum();
+        headsSequence();
+        headsParity();
+        headsRoot();
+        nodesSum();
+        nodesFormat();
+        nodesByte1();
+        valueWithoutOne();
+        valueNo();
+        prefixLength();
+        notUsedByLeaves();
+        notUsedByParents();
+        childrensPages();
+        pagesOfOtherNodes();
+        bytesRising();
+        asManyAsByte23();
+        placesAsTold();
+        valueOrTwoChildren();
+        theRootToo();
+        keysOf12();
+        asManyKeysAsTheHeadSays();
+        notMoreThan200Nodes();
+        formatsHoldTheirChildren();
+        formatsNeedNotBeLeast();
         pokeBeforeStart();
         Checks.end();
     }
 
-    private RightTest node(int page, int format, String prefix, Long value, int... bytesAndPages) {
-        Model.N n = new Model.N();
-        n.format = format;
-        n.prefix = prefix;
-        n.value = value;
-        for (int i = 0; i < bytesAndPages.length; i += 2) {
-            Model.N kid = new Model.N();
-            kid.page = bytesAndPages[i + 1];
-            n.kids.put(bytesAndPages[i], kid);
-        }
-        rows.put(page, Model.encode(n));
-        return this;
-    }
-
-    private RightTest head(int page, long sequence, int rootPage, int keys) {
-        rows.put(page, Model.encodeHead(sequence, rootPage, keys));
-        return this;
-    }
-
-    private RightTest set(int page, int i, int b) {
-        rows.get(page)[i] = b;
-        Checks.seal(rows.get(page));
-        return this;
-    }
-
-    private RightTest setUnsealed(int page, int i, int b) {
-        rows.get(page)[i] = b;
-        return this;
-    }
-
-    private RadixPages lay() {
-        RadixPages x = new RadixPages();
-        for (int page : rows.keySet()) {
-            Checks.pokeAll(x, page, new int[512], rows.get(page));
-        }
-        x.halt();
-        return x;
-    }
-
-    private RadixPages due(String what, long want) {
-        RadixPages x = lay();
-        Checks.due(what + ": start()", x.start(), want);
-        Checks.due(what + ": the sequence", x.count(8), want);
-        if (want == 0) {
-            Checks.due(what + ": keys", x.count(0), 0);
-            Checks.due(what + ": nodes", x.count(1), 1);
-            Checks.due(what + ": free", x.count(7), 254);
-            Checks.due(what + ": the root's page", x.count(9), 0);
-            Checks.due(what + ": nothing is new", x.count(6), 0);
-        }
-        return x;
-    }
-
     /** A root "r" with children by 0 and 9, three keys. */
-    private static RightTest small() {
-        return new RightTest().node(7, 1, "r", 1L, 0, 8, 9, 10).node(8, 1, "", -2L).node(10, 1, "xy", 0L)
+    private static Layout small() {
+        return new Layout().node(7, 1, "r", 1L, 0, 8, 9, 10).node(8, 1, "", -2L).node(10, 1, "xy", 0L)
             .head(1, SEQUENCE, 7, 3);
     }
 
+    /** A root of a format with children by 1, 2, 255. */
+    private static Layout wide(int format) {
+        return new Layout().node(7, format, "", null, 1, 11, 2, 12, 255, 13)
+            .node(11, 1, "", 1L).node(12, 1, "", 1L).node(13, 1, "", 1L).head(1, SEQUENCE, 7, 3);
+    }
+
+    /** Where the page of a child stands on its parent's page, by its place from 0 on and its byte. */
+    private static int pageAt(int format, int place, int b) {
+        return format == 4 ? 24 + b : format == 3 ? 280 + place : 24 + MOST[format] + place;
+    }
+
     private static void plainTrees() {
+        Checks.by("if all of it is RIGHT, that is the tree");
         RadixPages x = small().due("small", SEQUENCE);
-        Checks.due("keys", x.count(0), 3);
-        Checks.due("nodes", x.count(1), 3);
-        Checks.due("free", x.count(7), 251);
-        Checks.due("the root's page", x.count(9), 7);
-        Checks.due("page of a child", x.node(2, 4), 10);
+        Checks.dueCounts(x, 3, 3, 3, 0, 0, 0, 0, 251, 5, 7, 2);
+        Checks.dueNode(x, 2, 1, 0, 2, 1, 10, 2);
         Checks.due("r", Checks.get(x, "r"), 1);
         Checks.due("r0", Checks.get(x, Checks.text('r', 0)), -2);
         Checks.due("r9xy", Checks.get(x, Checks.text('r', 9, 'x', 'y')), 0);
@@ -99,216 +65,304 @@ final class RightTest {
         Checks.due("page of what was put", x.node(2, 4), 2);
         Checks.due("page of the root", x.count(9), 3);
         Checks.due("sequence", x.count(8), SEQUENCE + 1);
-        RadixPages bare = new RightTest().node(255, 1, "", null).head(1, 1, 255, 0).due("a bare root", 1);
-        Checks.due("its page", bare.count(9), 255);
-        Checks.due("free", bare.count(7), 253);
+        for (int format = 1; format <= 4; format++) {
+            wide(format).due("wide", SEQUENCE);
+        }
     }
 
-    private static void heads() {
-        small().head(1, 1, 7, 3).due("least sequence", 1);
-        small().head(1, 999999999, 7, 3).due("great sequence", 999999999);
-        RightTest most = small();
-        most.rows.remove(1);
-        RadixPages x = most.head(0, 1000000000, 7, 3).due("greatest sequence", 1000000000);
-        x.type('q', 1);
-        x.put(1);
+    private static void headsByte0() {
+        Checks.by("RIGHT: a head whose byte 0 is 1");
+        for (int b : new int[] {0, 2, 3, 129, 255}) {
+            small().set(1, 0, b).due("byte 0 is " + b, 0);
+        }
+    }
+
+    private static void headsZeros() {
+        Checks.by("whose bytes 12 to 503 are 0");
+        for (int i = 12; i <= 503; i++) {
+            small().set(1, i, 1 << i % 8).due("byte " + i, 0);
+        }
+    }
+
+    private static void headsSum() {
+        Checks.by("whose SUM is right");
+        for (int i = 0; i < 64; i++) {
+            int at = 504 + i / 8;
+            Layout layout = small();
+            layout.setUnsealed(1, at, layout.at(1, at) ^ 1 << i % 8).due("bit " + i + " of the sum", 0);
+        }
+        for (int i = 1; i < 12; i++) {
+            Layout layout = small().set(1, 7, 1);
+            layout.setUnsealed(1, i, layout.at(1, i) ^ 128).due("the sum of another byte " + i, 0);
+        }
+    }
+
+    private static void headsSequence() {
+        Checks.by("whose sequence is 1 .. 1000000000");
+        small().head(1, 1, 7, 3).due("1", 1);
+        small().head(1, 999999999, 7, 3).due("999999999", 999999999);
+        small().without(1).head(0, 1000000000, 7, 3).due("1000000000", 1000000000);
+        small().without(1).head(0, 2, 7, 3).due("2", 2);
+        small().without(1).head(0, 0, 7, 3).due("0", 0);
+        small().head(1, 1000000001, 7, 3).due("1000000001", 0);
+        small().without(1).head(0, 1000000002, 7, 3).due("1000000002", 0);
+        small().head(1, -1, 7, 3).due("-1", 0);
+        small().without(1).head(0, Long.MIN_VALUE, 7, 3).due("the least long", 0);
+        small().head(1, Long.MAX_VALUE, 7, 3).due("the greatest long", 0);
+        small().head(1, 0x100000001L, 7, 3).due("33 bits", 0);
+        small().head(1, 0x0100000000000001L, 7, 3).due("57 bits", 0);
+        RadixPages x = small().without(1).head(0, 1000000000, 7, 3).due("1000000000", 1000000000);
+        Checks.put(x, "q", 1);
         x.commit();
         Checks.due("the sequence goes on", x.count(8), 1000000001);
         x.halt();
         Checks.due("but is not right then", x.start(), 1000000000);
-        small().head(1, 1000000001, 7, 3).due("sequence too great", 0);
-        small().head(1, -1, 7, 3).due("sequence below 0", 0);
-        small().head(1, 0x100000001L, 7, 3).due("sequence of 33 bits", 0);
+    }
+
+    private static void headsParity() {
+        Checks.by("and even on page 0, odd on page 1");
         small().head(1, 4, 7, 3).due("even on page 1", 0);
-        RightTest odd = small();
-        odd.rows.remove(1);
-        odd.head(0, 5, 7, 3).due("odd on page 0", 0);
-        odd.head(0, 0, 7, 3).due("sequence 0", 0);
-        odd.head(0, 6, 7, 3).due("even on page 0", 6);
-        small().set(1, 0, 0).due("byte 0 is 0", 0);
-        small().set(1, 0, 2).due("byte 0 is 2", 0);
-        small().set(1, 0, 255).due("byte 0 is 255", 0);
-        small().set(1, 12, 1).due("byte 12", 0);
-        small().set(1, 503, 1).due("byte 503", 0);
-        small().set(1, 250, 128).due("byte 250", 0);
-        small().setUnsealed(1, 504, 1).due("sum", 0);
-        small().setUnsealed(1, 11, 2).due("sum of a change", 0);
-        small().set(1, 9, 1).due("root on page 1", 0);
-        small().set(1, 9, 0).due("root on page 0", 0);
-        small().set(1, 9, 8).due("root on another page", 0);
-        small().set(1, 9, 200).due("root on a page of 0s", 0);
+        small().without(1).head(0, 5, 7, 3).due("odd on page 0", 0);
+        small().without(1).head(0, 6, 7, 3).due("even on page 0", 6);
+        small().head(1, 7, 7, 3).due("odd on page 1", 7);
+        small().head(0, 7, 7, 3).due("a greater one, odd on page 0", SEQUENCE);
     }
 
-    private static void twoHeads() {
-        RightTest both = small().node(20, 1, "old", 1L).head(0, 4, 20, 1);
-        RadixPages x = both.due("the greater one", 5);
-        Checks.due("its keys", x.count(0), 3);
-        both.head(0, 6, 20, 1);
-        x = both.due("the greater one on page 0", 6);
-        Checks.due("its only key", x.count(0), 1);
-        Checks.due("free", x.count(7), 253);
-        both.set(20, 0, 9);
-        x = both.due("the other one", 5);
-        Checks.due("the other one's keys", x.count(0), 3);
-        Checks.due("the other one's free pages", x.count(7), 251);
-        Checks.put(x, "n", 1);
-        Checks.due("commit over the head that is wrong", x.commit(), 4);
-        Checks.due("the sequence", x.count(8), 6);
-        both.set(8, 0, 9);
-        both.due("none of two", 0);
-        both.head(0, 2, 20, 1);
-        both.due("none of two, the greater one on page 1", 0);
-        small().head(0, 6, 7, 2).due("a head that does not count as many keys", 5);
-        small().head(0, 6, 7, 3).due("two heads of one tree", 6);
-        small().head(0, 6, 7, 3).set(1, 0, 3).due("only page 0's head", 6);
-        small().head(0, 4, 7, 2).set(1, 0, 3).due("only page 0's head, with a wrong tree", 0);
-    }
-
-    private static void nodeBytes() {
-        small().setUnsealed(8, 511, 1).due("a node's sum", 0);
-        small().setUnsealed(10, 9, 1).due("a node's sum of a change", 0);
-        small().set(8, 0, 0).due("format 0", 0);
-        small().set(8, 0, 5).due("format 5", 0);
-        small().set(8, 0, 255).due("format 255", 0);
-        small().set(8, 0, 2).due("format 2 of a leaf", 5);
-        small().set(8, 0, 3).due("format 3 of a leaf", 5);
-        small().set(8, 0, 4).due("format 4 of a leaf", 5);
-        small().set(8, 1, 2).due("byte 1 is 2", 0);
-        small().set(7, 1, 0).due("a value where there is none", 0);
-        small().set(7, 1, 0).set(7, 9, 0).set(1, 11, 2).due("no value but two children", 5);
-        RightTest no = small();
-        for (int i = 2; i < 10; i++) {
-            no.set(8, i, i == 2 ? 128 : 0);
+    private static void headsRoot() {
+        Checks.by("whose root's page is 2 or more");
+        small().set(1, 9, 0).due("0", 0);
+        small().set(1, 9, 1).due("1", 0);
+        for (int page : new int[] {2, 255}) {
+            RadixPages x = new Layout().node(page, 1, "", null).head(1, 1, page, 0).due("page " + page, 1);
+            Checks.dueCounts(x, 0, 1, 1, 0, 0, 0, 0, 253, 1, page, 1);
         }
-        no.due("the value NO", 0);
-        no.set(8, 9, 1).due("the value behind NO", 5);
-        RightTest noWithout = small().set(1, 11, 2).set(7, 1, 0).set(7, 9, 0);
-        noWithout.set(7, 2, 128).due("NO without a value", 0);
-        small().set(10, 10, 13).due("a prefix of 13 bytes", 0);
-        small().set(10, 10, 255).due("a prefix of 255 bytes", 0);
-        small().set(10, 10, 1).due("a byte behind the prefix", 0);
-        small().set(10, 10, 3).due("a prefix with a 0 at its end", 5);
-        small().set(8, 22, 1).due("byte 22", 0);
-        small().set(8, 24, 1).due("a byte of a child that is not there", 0);
-        small().set(8, 28, 9).due("a page of a child that is not there", 0);
-        small().set(8, 32, 1).due("byte 32", 0);
-        small().set(8, 503, 1).due("byte 503", 0);
-        small().set(8, 0, 2).set(8, 55, 1).due("byte 55 of format 2", 0);
-        small().set(8, 0, 2).set(8, 56, 1).due("byte 56 of format 2", 0);
-        small().set(8, 0, 3).set(8, 328, 1).due("byte 328 of format 3", 0);
-        small().set(8, 0, 3).set(8, 327, 1).due("byte 327 of format 3", 0);
-        small().set(8, 0, 4).set(8, 280, 1).due("byte 280 of format 4", 0);
+        Layout nodeOnAHead = new Layout().node(1, 1, "", 1L);
+        nodeOnAHead.head(0, 6, 1, 1).due("a right node on page 1", 0);
+        nodeOnAHead.node(3, 1, "", 1L).head(0, 6, 3, 1).due("the same on page 3", 6);
+        small().set(1, 9, 8).due("another node", 0);
+        small().set(1, 9, 200).due("a page of 0s", 0);
     }
 
-    private static RightTest wide(int format) {
-        return new RightTest().node(7, format, "", null, 1, 11, 2, 12, 255, 13)
-            .node(11, 1, "", 1L).node(12, 1, "", 1L).node(13, 1, "", 1L).head(1, SEQUENCE, 7, 3);
+    private static void nodesSum() {
+        Checks.by("each page's SUM is right");
+        for (int i = 0; i < 64; i++) {
+            int at = 504 + i / 8;
+            for (int page : new int[] {7, 8, 10}) {
+                Layout layout = small();
+                layout.setUnsealed(page, at, layout.at(page, at) ^ 1 << i % 8).dueNotRight("bit " + i + " of the sum");
+            }
+        }
+        small().setUnsealed(10, 9, 1).dueNotRight("another value");
+        small().setUnsealed(10, 12, 'z').dueNotRight("another prefix");
+        small().setUnsealed(7, 25, 8).dueNotRight("another child's byte");
+        small().setUnsealed(8, 0, 2).dueNotRight("another format");
     }
 
-    private static void children() {
-        for (int format = 1; format <= 2; format++) {
-            int most = format == 1 ? 4 : 16;
+    private static void nodesFormat() {
+        Checks.by("its format 1 .. 4");
+        for (int page : new int[] {7, 8}) {
+            for (int format : new int[] {0, 5, 6, 128, 255}) {
+                small().set(page, 0, format).dueNotRight("format " + format);
+            }
+        }
+        for (int format = 1; format <= 4; format++) {
+            small().set(8, 0, format).due("format " + format, SEQUENCE);
+        }
+    }
+
+    private static void nodesByte1() {
+        Checks.by("byte 1 is 0 or 1");
+        for (int b : new int[] {2, 3, 128, 129, 255}) {
+            small().set(7, 1, b).dueNotRight("byte 1 is " + b);
+            small().set(8, 1, b).dueNotRight("byte 1 is " + b);
+        }
+    }
+
+    private static void valueWithoutOne() {
+        Checks.by("the value 0 without one");
+        Layout none = small().node(7, 1, "r", null, 0, 8, 9, 10).set(1, 11, 2);
+        none.due("0", SEQUENCE);
+        for (int i = 2; i <= 9; i++) {
+            none.set(7, i, 1).dueNotRight("byte " + i + " of the value");
+            none.set(7, i, 0);
+        }
+        none.set(7, 2, 128).dueNotRight("NO");
+    }
+
+    private static void valueNo() {
+        Checks.by("and not NO");
+        small().node(8, 1, "", Long.MIN_VALUE).dueNotRight("a leaf's NO");
+        small().node(7, 1, "r", Long.MIN_VALUE, 0, 8, 9, 10).dueNotRight("the root's NO");
+        RadixPages x = small().node(8, 1, "", Long.MIN_VALUE + 1).due("the next value", SEQUENCE);
+        Checks.due("get", Checks.get(x, Checks.text('r', 0)), Long.MIN_VALUE + 1);
+        small().node(8, 1, "", Long.MAX_VALUE).due("the greatest value", SEQUENCE);
+    }
+
+    private static void prefixLength() {
+        Checks.by("the prefix's length 12 at most");
+        Layout lone = new Layout().node(2, 1, "abcdefghijkl", 1L).head(1, SEQUENCE, 2, 1);
+        lone.due("12", SEQUENCE);
+        for (int length : new int[] {13, 14, 128, 255}) {
+            lone.set(2, 10, length).dueNotRight("" + length);
+        }
+        small().set(10, 10, 3).due("a prefix with a 0 at its end", SEQUENCE);
+        small().set(10, 10, 9).due("a key of 11 bytes by it", SEQUENCE);
+    }
+
+    private static void notUsedByLeaves() {
+        Checks.by("all that is not used 0: of a node without children");
+        for (int format = 1; format <= 4; format++) {
+            for (int i = 12; i <= 503; i++) {
+                if (i != 23) {
+                    Layout lone = new Layout().node(2, format, "a", 1L).head(1, SEQUENCE, 2, 1);
+                    lone.set(2, i, 1 << i % 8).dueNotRight("format " + format + ", byte " + i);
+                }
+            }
+        }
+    }
+
+    private static void notUsedByParents() {
+        Checks.by("all that is not used 0: of a node with children");
+        for (int format = 1; format <= 4; format++) {
+            for (int i = 11; i <= 503; i++) {
+                boolean used = i == 23 || i >= 24 && wide(format).at(7, i) != 0;
+                if (!used) {
+                    wide(format).set(7, i, 14).dueNotRight("format " + format + ", byte " + i);
+                }
+            }
+        }
+    }
+
+    private static void childrensPages() {
+        Checks.by("all children's pages 2 .. 255");
+        for (int format = 1; format <= 4; format++) {
+            int[] bytes = {1, 2, 255};
+            for (int place = 0; place < 3; place++) {
+                int at = pageAt(format, place, bytes[place]);
+                String name = "format " + format + ", child " + place + ", ";
+                wide(format).set(7, at, 0).dueNotRight(name + "page 0");
+                wide(format).set(7, at, 1).dueNotRight(name + "page 1");
+                wide(format).set(7, at, 2).node(2, 1, "", 1L).due(name + "page 2", SEQUENCE);
+                wide(format).set(7, at, 255).node(255, 1, "", 1L).due(name + "page 255", SEQUENCE);
+                wide(format).set(7, at, 90).dueNotRight(name + "a page of 0s");
+            }
+            Layout onHead = wide(format).without(1).head(0, 6, 7, 3).node(1, 1, "", 1L);
+            onHead.due("format " + format + ", a right node on page 1 beside it", 6);
+            onHead.set(7, pageAt(format, 0, 1), 1).due("format " + format + ", a right node on page 1 as child", 0);
+        }
+    }
+
+    private static void pagesOfOtherNodes() {
+        Checks.by("and of no other node of it");
+        for (int format = 1; format <= 4; format++) {
             String name = "format " + format + ", ";
-            wide(format).due(name + "as it is", 5);
-            wide(format).set(7, 23, 2).due(name + "one too few", 0);
-            wide(format).set(7, 23, 4).due(name + "one too many", 0);
-            wide(format).set(7, 23, most + 1).due(name + "more than it holds", 0);
-            wide(format).set(7, 23, 255).due(name + "255", 0);
-            wide(format).set(7, 24, 2).due(name + "bytes alike", 0);
-            wide(format).set(7, 24, 3).due(name + "bytes falling", 0);
-            wide(format).set(7, 24, 0).due(name + "byte 0", 5);
-            wide(format).set(7, 24 + most, 0).due(name + "page 0", 0);
-            wide(format).set(7, 24 + most, 1).due(name + "page 1", 0);
-            wide(format).set(7, 24 + most, 12).due(name + "a page twice", 0);
-            wide(format).set(7, 24 + most, 7).due(name + "its own page", 0);
-            wide(format).set(7, 24 + most, 90).due(name + "a page of 0s", 0);
-            wide(format).set(7, 24 + most + 3, 14).due(name + "a page behind", 0);
-            wide(format).set(7, 27, 1).due(name + "a byte behind", 0);
+            wide(format).set(7, pageAt(format, 0, 1), 12).dueNotRight(name + "a child twice");
+            wide(format).set(7, pageAt(format, 2, 255), 11).dueNotRight(name + "a child twice, the last one");
+            wide(format).set(7, pageAt(format, 1, 2), 7).dueNotRight(name + "the root");
+        }
+        Layout loop = new Layout().node(2, 1, "", 1L, 5, 3).node(3, 1, "", 1L, 6, 2);
+        loop.head(1, SEQUENCE, 2, 2).dueNotRight("a child that has the root as child");
+        Layout cousins = new Layout().node(2, 1, "", 1L, 5, 3, 6, 4).node(3, 1, "", 1L, 7, 5)
+            .node(4, 1, "", 1L, 7, 5).node(5, 1, "", 1L);
+        cousins.head(1, SEQUENCE, 2, 5).dueNotRight("a node of two parents");
+        cousins.head(1, SEQUENCE, 2, 4).dueNotRight("a node of two parents, counted once");
+        Layout uncle = new Layout().node(2, 1, "", 1L, 5, 3, 6, 4).node(3, 1, "", 1L, 7, 4).node(4, 1, "", 1L);
+        uncle.head(1, SEQUENCE, 2, 4).dueNotRight("a node of two levels");
+    }
+
+    private static void bytesRising() {
+        Checks.by("bytes rising");
+        for (int format = 1; format <= 2; format++) {
+            String name = "format " + format + ", ";
+            wide(format).set(7, 24, 0).due(name + "0, 2, 255", SEQUENCE);
+            wide(format).set(7, 24, 2).dueNotRight(name + "2, 2, 255");
+            wide(format).set(7, 24, 3).dueNotRight(name + "3, 2, 255");
+            wide(format).set(7, 25, 255).dueNotRight(name + "1, 255, 255");
+            wide(format).set(7, 25, 1).dueNotRight(name + "1, 1, 255");
+            wide(format).set(7, 26, 3).due(name + "1, 2, 3", SEQUENCE);
+            wide(format).set(7, 26, 0).dueNotRight(name + "1, 2, 0");
+            wide(format).set(7, 25, 127).set(7, 26, 128).due(name + "1, 127, 128", SEQUENCE);
         }
     }
 
-    private static void places() {
-        wide(3).due("format 3, as it is", 5);
-        wide(3).set(7, 23, 2).due("format 3, one too few", 0);
-        wide(3).set(7, 23, 4).due("format 3, one too many", 0);
-        wide(3).set(7, 23, 49).due("format 3, 49", 0);
-        wide(3).set(7, 25, 2).set(7, 26, 1).due("format 3, places the other way", 0);
-        wide(3).set(7, 26, 1).due("format 3, a place twice", 0);
-        wide(3).set(7, 25, 2).set(7, 26, 3).set(7, 279, 4).due("format 3, places from 2 on", 0);
-        wide(3).set(7, 279, 4).set(7, 283, 13).set(7, 282, 0).due("format 3, a place left out", 0);
-        wide(3).set(7, 27, 4).due("format 3, a place more", 0);
-        wide(3).set(7, 283, 14).due("format 3, a page behind", 0);
-        wide(3).set(7, 280, 12).due("format 3, a page twice", 0);
-        wide(3).set(7, 280, 1).due("format 3, page 1", 0);
-        wide(3).set(7, 280, 0).due("format 3, page 0", 0);
+    private static void asManyAsByte23() {
+        Checks.by("as many as byte 23 says");
+        for (int format = 1; format <= 4; format++) {
+            for (int said : new int[] {0, 1, 2, 4, MOST[format] + 1 & 255, 128, 255}) {
+                wide(format).set(7, 23, said).dueNotRight("format " + format + ", " + said);
+            }
+        }
     }
 
-    private static void bytesOfFormat4() {
-        wide(4).due("format 4, as it is", 5);
-        wide(4).set(7, 23, 2).due("format 4, one too few", 0);
-        wide(4).set(7, 23, 4).due("format 4, one too many", 0);
-        wide(4).set(7, 25, 12).due("format 4, a page twice", 0);
-        wide(4).set(7, 25, 1).due("format 4, page 1", 0);
-        wide(4).set(7, 25, 7).due("format 4, its own page", 0);
-        wide(4).set(7, 25, 0).set(7, 24, 11).due("format 4, another byte", 5);
-        wide(4).set(7, 100, 14).due("format 4, a page more", 0);
+    private static void placesAsTold() {
+        Checks.by("and places in format 3 just as told");
+        wide(3).set(7, 25, 2).set(7, 26, 1).dueNotRight("the other way");
+        wide(3).set(7, 26, 1).dueNotRight("twice");
+        wide(3).set(7, 25, 2).set(7, 26, 3).set(7, 279, 4).dueNotRight("from 2 on");
+        wide(3).set(7, 25, 2).set(7, 26, 3).set(7, 279, 4).set(7, 280, 0).set(7, 281, 11).set(7, 282, 12).set(7, 283, 13)
+            .dueNotRight("from 2 on, the pages too");
+        wide(3).set(7, 279, 4).set(7, 283, 13).set(7, 282, 0).dueNotRight("one left out");
+        wide(3).set(7, 25, 49).dueNotRight("49");
+        wide(3).set(7, 279, 255).dueNotRight("255");
+        wide(3).set(7, 27, 4).dueNotRight("one more");
+        wide(3).set(7, 24, 1).set(7, 25, 0).due("by another byte", SEQUENCE);
     }
 
-    private static void reasons() {
-        RightTest inner = new RightTest().node(2, 1, "", 1L, 5, 3).node(3, 1, "", null, 6, 4).node(4, 1, "", 1L);
-        inner.head(1, SEQUENCE, 2, 2).due("an inner node with one child and no value", 0);
-        inner.node(3, 1, "", 0L, 6, 4).head(1, SEQUENCE, 2, 3).due("an inner node with one child and a value", 5);
-        inner.node(3, 1, "", null).head(1, SEQUENCE, 2, 1).due("a leaf without a value", 0);
-        RightTest root = new RightTest().node(2, 1, "", null, 5, 3).node(3, 1, "", 1L);
-        root.head(1, SEQUENCE, 2, 1).due("a root with one child and no value", 0);
-        root.node(2, 1, "", 0L, 5, 3).head(1, SEQUENCE, 2, 2).due("a root with one child and a value", 5);
-        RightTest bare = new RightTest().head(1, SEQUENCE, 2, 0);
-        bare.node(2, 1, "", null).due("a bare root", 5);
-        bare.node(2, 2, "", null).due("a bare root of format 2", 0);
-        bare.node(2, 4, "", null).due("a bare root of format 4", 0);
-        bare.node(2, 1, "a", null).due("a bare root with a prefix", 0);
-        bare.node(2, 4, "a", 0L).head(1, SEQUENCE, 2, 1).due("a root of format 4 with a value alone", 5);
+    private static void valueOrTwoChildren() {
+        Checks.by("a node that is not the root has a value or two children");
+        Layout inner = new Layout().node(2, 1, "", 1L, 5, 3).node(4, 1, "", 1L).node(5, 1, "", 1L);
+        inner.node(3, 1, "", null, 6, 4).head(1, SEQUENCE, 2, 2).dueNotRight("one child and no value");
+        inner.node(3, 1, "", 0L, 6, 4).head(1, SEQUENCE, 2, 3).due("one child and a value", SEQUENCE);
+        inner.node(3, 1, "", null, 6, 4, 7, 5).head(1, SEQUENCE, 2, 3).due("two children and no value", SEQUENCE);
+        inner.node(3, 1, "", null).head(1, SEQUENCE, 2, 1).dueNotRight("neither");
+        inner.node(3, 1, "", 0L).head(1, SEQUENCE, 2, 2).due("a value alone", SEQUENCE);
     }
 
-    private static void sharedPages() {
-        RightTest loop = new RightTest().node(2, 1, "", 1L, 5, 3).node(3, 1, "", 1L, 6, 2);
-        loop.head(1, SEQUENCE, 2, 2).due("a child that is the root", 0);
-        RightTest self = new RightTest().node(2, 1, "", 1L, 5, 2).head(1, SEQUENCE, 2, 1);
-        self.due("a root that is its own child", 0);
-        RightTest twice = new RightTest().node(2, 1, "", 1L, 5, 3, 6, 4).node(3, 1, "", 1L, 7, 5)
-            .node(4, 1, "", 1L, 7, 5).node(5, 1, "", 1L);
-        twice.head(1, SEQUENCE, 2, 5).due("a node of two parents", 0);
-        twice.head(1, SEQUENCE, 2, 4).due("a node of two parents, counted once", 0);
-        RightTest onHead = new RightTest().node(2, 1, "", 1L, 5, 1).node(1, 1, "", 1L).head(0, 6, 2, 2);
-        onHead.due("a child on page 1", 0);
-        onHead.node(2, 1, "", 1L, 5, 3).node(3, 1, "", 1L).due("the same on page 3", 6);
-        onHead.head(0, 6, 1, 1).due("a root on page 1", 0);
-        onHead.head(0, 6, 3, 1).due("the same root on page 3", 6);
+    private static void theRootToo() {
+        Checks.by("the root too, or neither (then no prefix and format 1)");
+        Layout root = new Layout().node(3, 1, "", 1L).node(4, 1, "", 1L);
+        root.node(2, 1, "", null, 5, 3).head(1, SEQUENCE, 2, 1).dueNotRight("one child and no value");
+        root.node(2, 1, "", 0L, 5, 3).head(1, SEQUENCE, 2, 2).due("one child and a value", SEQUENCE);
+        root.node(2, 1, "", null, 5, 3, 6, 4).head(1, SEQUENCE, 2, 2).due("two children and no value", SEQUENCE);
+        root.node(2, 4, "a", 0L).head(1, SEQUENCE, 2, 1).due("a value alone", SEQUENCE);
+        Layout bare = new Layout().head(1, SEQUENCE, 2, 0);
+        bare.node(2, 1, "", null).due("neither", SEQUENCE);
+        bare.node(2, 1, "a", null).dueNotRight("neither, with a prefix");
+        bare.node(2, 1, Checks.text(0), null).dueNotRight("neither, with a prefix of 0");
+        for (int format = 2; format <= 4; format++) {
+            bare.node(2, format, "", null).dueNotRight("neither, of format " + format);
+        }
     }
 
-    private static void keyLengths() {
-        RightTest two = new RightTest().node(2, 1, "abcde", 1L, 5, 3).head(1, SEQUENCE, 2, 2);
-        two.node(3, 1, "abcdef", 1L).due("a key of 12 bytes in two nodes", 5);
-        two.node(3, 1, "abcdefg", 1L).due("a key of 13 bytes in two nodes", 0);
-        RightTest edge = new RightTest().node(2, 1, "abcdefghijkl", 1L, 5, 3).node(3, 1, "", 1L);
-        edge.head(1, SEQUENCE, 2, 2).due("a child behind 12 bytes", 0);
-        RightTest chain = new RightTest();
+    private static void keysOf12() {
+        Checks.by("no key is longer than 12");
+        Layout two = new Layout().node(2, 1, "abcde", 1L, 5, 3).head(1, SEQUENCE, 2, 2);
+        two.node(3, 1, "abcdef", 1L).due("12 bytes in two nodes", SEQUENCE);
+        two.node(3, 1, "abcdefg", 1L).dueNotRight("13 bytes in two nodes");
+        Layout byEdge = new Layout().node(2, 1, "abcdefghijkl", 1L, 5, 3).node(3, 1, "", 1L);
+        byEdge.head(1, SEQUENCE, 2, 2).dueNotRight("a child behind 12 bytes");
+        byEdge.node(2, 1, "abcdefghijk", 1L, 5, 3).due("a child behind 11 bytes", SEQUENCE);
+        Layout chain = new Layout();
         for (int i = 0; i < 13; i++) {
             chain.node(2 + i, 1, "", 1L, i == 12 ? new int[0] : new int[] {i, 3 + i});
         }
-        RadixPages x = chain.head(1, SEQUENCE, 2, 13).due("13 nodes in a chain", 5);
+        RadixPages x = chain.head(1, SEQUENCE, 2, 13).due("13 nodes in a chain", SEQUENCE);
         Checks.due("the deepest", x.count(10), 13);
         Checks.due("the longest", x.nth(12), 12);
-        chain.node(14, 1, "", 1L, 12, 15).node(15, 1, "", 1L).head(1, SEQUENCE, 2, 14).due("14 nodes in a chain", 0);
+        chain.node(14, 1, "", 1L, 12, 15).node(15, 1, "", 1L).head(1, SEQUENCE, 2, 14).dueNotRight("14 nodes in a chain");
     }
 
-    private static void keyCounts() {
-        small().head(1, SEQUENCE, 7, 2).due("a key too few", 0);
-        small().head(1, SEQUENCE, 7, 4).due("a key too many", 0);
-        small().head(1, SEQUENCE, 7, 256 + 3).due("256 keys too many", 0);
+    private static void asManyKeysAsTheHeadSays() {
+        Checks.by("there are as many as the head says");
+        for (int keys : new int[] {0, 2, 4, 256 + 3, 255 * 256 + 3, 65535}) {
+            small().head(1, SEQUENCE, 7, keys).due(keys + " keys", 0);
+        }
+        new Layout().node(2, 1, "", null).head(1, SEQUENCE, 2, 1).due("1 of none", 0);
+        small().head(0, 6, 7, 2).due("so the other head's", SEQUENCE);
     }
 
-    private static void tooManyNodes() {
+    private static void notMoreThan200Nodes() {
+        Checks.by("and not more than 200 nodes");
         Checks.due("199 nodes", startWithMoreLeaves(0), 2);
         Checks.due("200 nodes", startWithMoreLeaves(1), 2);
         Checks.due("201 nodes", startWithMoreLeaves(2), 0);
@@ -343,11 +397,30 @@ final class RightTest {
         Checks.pokeAll(x, 0, Model.encodeHead(2, page, 100), Model.encodeHead(2, page, 100 + more));
         x.poke(1, 0, 2);
         x.halt();
-        return x.start();
+        long sequence = x.start();
+        Checks.due("nodes", x.count(1), sequence == 0 ? 1 : 199 + more);
+        return sequence;
     }
 
-    private static void formatsThatAreLet() {
-        RadixPages x = wide(4).due("format 4 with three children", 5);
+    private static void formatsHoldTheirChildren() {
+        Checks.by("(Formats need not be as few children would have them, but hold them.)");
+        int[] five = {1, 11, 2, 12, 3, 13, 4, 14, 5, 15};
+        Layout layout = new Layout().head(1, SEQUENCE, 7, 5).node(7, 2, "", null, five);
+        for (int page = 11; page <= 15; page++) {
+            layout.node(page, 1, "", 1L);
+        }
+        layout.due("five in format 2", SEQUENCE);
+        layout.node(7, 3, "", null, five).due("five in format 3", SEQUENCE);
+        layout.node(7, 4, "", null, five).due("five in format 4", SEQUENCE);
+        layout.node(7, 1, "", null, 1, 11, 2, 12, 3, 13, 4, 14).head(1, SEQUENCE, 7, 4).due("four in format 1", SEQUENCE);
+        layout.node(7, 1, "", null, five).head(1, SEQUENCE, 7, 5).dueNotRight("five in format 1");
+        layout.node(7, 1, "", null, 1, 11, 2, 12, 3, 13, 4, 14).set(7, 23, 5).dueNotRight("five said in format 1");
+    }
+
+    private static void formatsNeedNotBeLeast() {
+        Checks.by("(Formats need not be as few children would have them: such a tree goes on as it is)");
+        RadixPages x = wide(4).due("format 4 with three children", SEQUENCE);
+        Checks.dueCounts(x, 3, 4, 3, 0, 0, 1);
         Checks.remove(x, Checks.text(1));
         Checks.due("one format less", x.node(0, 0), 3);
         Checks.put(x, Checks.text(3), 1);
@@ -356,7 +429,7 @@ final class RightTest {
         Checks.due("again one less", x.node(0, 0), 2);
         Checks.remove(x, Checks.text(2));
         Checks.due("put together, the lower one's", x.node(0, 0), 1);
-        RadixPages y = wide(3).set(13, 0, 4).due("a leaf of format 4", 5);
+        RadixPages y = wide(3).set(13, 0, 4).due("a leaf of format 4", SEQUENCE);
         Checks.remove(y, Checks.text(1));
         Checks.remove(y, Checks.text(2));
         Checks.due("put together with it", y.node(0, 0), 4);
@@ -369,6 +442,7 @@ final class RightTest {
     }
 
     private static void pokeBeforeStart() {
+        Checks.by("(What the tree is does not hang on that before start().)");
         RadixPages x = new RadixPages();
         Checks.put(x, "a", 1);
         x.commit();

@@ -13,12 +13,6 @@ final class ShapeTest {
         Checks.end();
     }
 
-    private static void dueNode(RadixPages x, int n, int... want) {
-        for (int what = 0; what < want.length; what++) {
-            Checks.due("node(" + n + ", " + what + ")", x.node(n, what), want[what]);
-        }
-    }
-
     private static void growing() {
         RadixPages x = new RadixPages();
         for (int b = 1; b <= 60; b++) {
@@ -42,25 +36,25 @@ final class ShapeTest {
             Checks.due("format of " + left, x.node(0, 0), left > 40 ? 4 : left > 12 ? 3 : left > 3 ? 2 : 1);
         }
         Checks.remove(x, Checks.text(1));
-        dueNode(x, 0, 1, 0, 1, 1, 0, 0);
+        Checks.dueNode(x, 0, 1, 0, 1, 1, 0, 0);
         Checks.due("nodes", x.count(1), 1);
     }
 
     private static void cutting() {
         RadixPages x = new RadixPages();
         Checks.put(x, "abcdef", 1);
-        dueNode(x, 0, 1, 0, 6, 1, 0, 0);
+        Checks.dueNode(x, 0, 1, 0, 6, 1, 0, 0);
         Checks.put(x, "abcxyz", 2);
-        dueNode(x, 0, 1, 2, 3, 0, 0, 0);
-        dueNode(x, 1, 1, 0, 2, 1, 0, 4);
-        dueNode(x, 2, 1, 0, 2, 1, 0, 4);
+        Checks.dueNode(x, 0, 1, 2, 3, 0, 0, 0);
+        Checks.dueNode(x, 1, 1, 0, 2, 1, 0, 4);
+        Checks.dueNode(x, 2, 1, 0, 2, 1, 0, 4);
         Checks.put(x, "a", 3);
-        dueNode(x, 0, 1, 1, 1, 1, 0, 0);
-        dueNode(x, 1, 1, 2, 1, 0, 0, 2);
-        dueNode(x, 2, 1, 0, 2, 1, 0, 4);
+        Checks.dueNode(x, 0, 1, 1, 1, 1, 0, 0);
+        Checks.dueNode(x, 1, 1, 2, 1, 0, 0, 2);
+        Checks.dueNode(x, 2, 1, 0, 2, 1, 0, 4);
         Checks.put(x, "", 4);
-        dueNode(x, 0, 1, 1, 0, 1, 0, 0);
-        dueNode(x, 1, 1, 1, 0, 1, 0, 1);
+        Checks.dueNode(x, 0, 1, 1, 0, 1, 0, 0);
+        Checks.dueNode(x, 1, 1, 1, 0, 1, 0, 1);
         Checks.put(x, "z", 5);
         Checks.due("children of the root", x.node(0, 1), 2);
         Checks.due("the deepest", x.count(10), 4);
@@ -73,15 +67,15 @@ final class ShapeTest {
         Checks.put(x, "abcxyz", 2);
         Checks.put(x, "abc", 3);
         Checks.remove(x, "abcdef");
-        dueNode(x, 0, 1, 1, 3, 1);
+        Checks.dueNode(x, 0, 1, 1, 3, 1);
         Checks.remove(x, "abc");
-        dueNode(x, 0, 1, 0, 6, 1, 0, 0);
+        Checks.dueNode(x, 0, 1, 0, 6, 1, 0, 0);
         Checks.due("nodes", x.count(1), 1);
         Checks.due("value", Checks.get(x, "abcxyz"), 2);
         Checks.put(x, "abcxaa", 4);
         Checks.put(x, "abcxab", 5);
         Checks.remove(x, "abcxyz");
-        dueNode(x, 0, 1, 2, 5, 0, 0, 0);
+        Checks.dueNode(x, 0, 1, 2, 5, 0, 0, 0);
         Checks.due("nodes then", x.count(1), 3);
         Checks.due("value then", Checks.get(x, "abcxab"), 5);
         Checks.put(x, "abcdefghijkl", 6);
@@ -89,7 +83,7 @@ final class ShapeTest {
         Checks.remove(x, "abcxaa");
         Checks.remove(x, "abcxab");
         Checks.remove(x, "abcdefghijk");
-        dueNode(x, 0, 1, 0, 12, 1, 0, 0);
+        Checks.dueNode(x, 0, 1, 0, 12, 1, 0, 0);
         Checks.due("longest", Checks.get(x, "abcdefghijkl"), 6);
     }
 
@@ -97,10 +91,10 @@ final class ShapeTest {
         RadixPages x = new RadixPages();
         Checks.put(x, "abc", 1);
         Checks.remove(x, "abc");
-        dueNode(x, 0, 1, 0, 0, 0, 0, 0);
+        Checks.dueNode(x, 0, 1, 0, 0, 0, 0, 0);
         Checks.due("new", x.count(6), 1);
         Checks.put(x, "xy", 2);
-        dueNode(x, 0, 1, 0, 2, 1, 0, 0);
+        Checks.dueNode(x, 0, 1, 0, 2, 1, 0, 0);
     }
 
     private static void keepingFormats() {
@@ -108,21 +102,21 @@ final class ShapeTest {
         for (int b = 0; b < 5; b++) {
             Checks.put(x, "pre" + (char) (b + 65), b);
         }
-        dueNode(x, 0, 2, 5, 3, 0);
+        Checks.dueNode(x, 0, 2, 5, 3, 0);
         Checks.put(x, "pr", 9);
-        dueNode(x, 0, 1, 1, 2, 1);
-        dueNode(x, 1, 2, 5, 0, 0);
+        Checks.dueNode(x, 0, 1, 1, 2, 1);
+        Checks.dueNode(x, 1, 2, 5, 0, 0);
         Checks.remove(x, "preA");
-        dueNode(x, 1, 2, 4, 0, 0);
+        Checks.dueNode(x, 1, 2, 4, 0, 0);
         Checks.remove(x, "pr");
-        dueNode(x, 0, 2, 4, 3, 0);
+        Checks.dueNode(x, 0, 2, 4, 3, 0);
         Checks.put(x, "q", 9);
-        dueNode(x, 0, 1, 2, 0, 0);
-        dueNode(x, 1, 2, 4, 2, 0);
+        Checks.dueNode(x, 0, 1, 2, 0, 0);
+        Checks.dueNode(x, 1, 2, 4, 2, 0);
         Checks.remove(x, "q");
-        dueNode(x, 0, 2, 4, 3, 0);
+        Checks.dueNode(x, 0, 2, 4, 3, 0);
         Checks.remove(x, "preB");
-        dueNode(x, 0, 1, 3, 3, 0);
+        Checks.dueNode(x, 0, 1, 3, 3, 0);
     }
 
     private static void counting() {
@@ -131,15 +125,9 @@ final class ShapeTest {
         for (String key : keys) {
             Checks.put(x, key, 1);
         }
-        int[] want = {6, 6, 6, 0, 0, 0, 6, 254, 0, 0, 4};
-        for (int what = 0; what < want.length; what++) {
-            Checks.due("count(" + what + ")", x.count(what), want[what]);
-        }
+        Checks.dueCounts(x, 6, 6, 6, 0, 0, 0, 6, 254, 0, 0, 4);
         x.commit();
-        int[] then = {6, 6, 6, 0, 0, 0, 0, 248, 1, 7, 4};
-        for (int what = 0; what < then.length; what++) {
-            Checks.due("committed count(" + what + ")", x.count(what), then[what]);
-        }
+        Checks.dueCounts(x, 6, 6, 6, 0, 0, 0, 0, 248, 1, 7, 4);
         int[] pages = {7, 5, 4, 2, 3, 6};
         int[] lead = {0, 1, 2, 3, 3, 1};
         for (int n = 0; n < pages.length; n++) {
