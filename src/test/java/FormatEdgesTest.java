@@ -159,6 +159,16 @@ final class FormatEdgesTest {
             Checks.due("its value", Checks.get(x, "pqr"), 99);
             Checks.due("a child's value", Checks.get(x, "pqr" + (char) 2), 2);
         }
+        for (int format = 2; format <= 4; format++) {
+            RadixPages x = new Layout().node(2, format, "pqr", null, 6, 3, 7, 4).node(3, 1, "", 1L).node(4, 1, "", 1L)
+                .head(1, 1, 2, 2).due("two children in format " + format, 1);
+            Checks.put(x, "pz", 1);
+            Checks.dueNode(x, 0, 1, 2, 1, 0);
+            Checks.dueNode(x, 1, format, 2, 1, 0);
+            Checks.put(x, "pq", 1);
+            Checks.dueNode(x, 1, 1, 1, 0, 1);
+            Checks.dueNode(x, 2, format, 2, 0, 0);
+        }
     }
 
     private static void putTogetherWithItsOnlyChild() {
